@@ -634,6 +634,7 @@ public final class FenceWays {
             if (!plan.areInConflict(last, first)) {
                 return false;
             }
+            // One that is given alone needs neighbours that read.
             return !(isAlone(a) && plan.isWriter(first)) && !(isAlone(b) && plan.isWriter(last));
         }
 
@@ -740,9 +741,7 @@ public final class FenceWays {
         private int kinds;
 
         Setting() {
-            Arrays.fill(costs, 1);
-            fences = 0;
-            kinds = ALL_KINDS;
+            clear();
         }
 
         void clear() {

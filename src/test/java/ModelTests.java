@@ -122,7 +122,13 @@ public final class ModelTests {
 
     /** Mostly a step or gap that may be there, now and then one that is not. */
     private int aStep() {
-        return below(30) == 0 ? below(2000) - 1000 : below(10) - 1;
+        return below(30) == 0 ? wild() : below(10) - 1;
+    }
+
+    private int wild() {
+        int[] some = {Integer.MIN_VALUE, Integer.MAX_VALUE, 31, 32, 33, 64, -32, -1000000001};
+        int k = below(some.length * 2);
+        return k < some.length ? some[k] : random.nextInt();
     }
 
     private int aNumber() {
@@ -136,11 +142,11 @@ public final class ModelTests {
     private int oneCall() {
         int a = aStep();
         int b = aStep();
-        int c = below(9) - 1;
+        int c = below(40) == 0 ? wild() : below(9) - 1;
         boolean is = below(3) != 0;
         switch (below(20)) {
             case 0: case 1: case 2:
-                int what = below(21) - 1;
+                int what = below(40) == 0 ? wild() : below(21) - 1;
                 due("told(" + what + ")", x.told(what), y.told(what));
                 break;
             case 3: case 4:
@@ -151,7 +157,7 @@ public final class ModelTests {
                 due("pair(" + a + ", " + b + ", " + d + ")", x.pair(a, b, d), y.pair(a, b, d));
                 break;
             case 7: case 8:
-                int i = below(40) - 2;
+                int i = below(30) == 0 ? wild() : below(40) - 2;
                 int kind = below(5) - 1;
                 due("reading(" + i + ", " + kind + ")", x.reading(i, kind), y.reading(i, kind));
                 break;
@@ -161,14 +167,16 @@ public final class ModelTests {
                 break;
             default:
                 change(a, is);
+                int asked = below(2) == 0 ? 6 : 3 + below(16);
+                due("told(" + asked + ")", x.told(asked), y.told(asked));
         }
-        return 1;
+        return 2;
     }
 
     private void change(int a, boolean is) {
-        int n = below(4) == 0 ? below(24) - 1 : 1 + below(4);
-        int v = below(12) - 1;
-        int i = below(10) == 0 ? below(5) - 2 : below(2);
+        int n = below(40) == 0 ? wild() : below(4) == 0 ? below(24) - 1 : 1 + below(4);
+        int v = below(40) == 0 ? wild() : below(12) - 1;
+        int i = below(40) == 0 ? wild() : below(10) == 0 ? below(5) - 2 : below(2);
         switch (below(12)) {
             case 0: case 1: case 2:
                 due("fence(" + a + ", " + is + ")", x.fence(a, is), y.fence(a, is));
@@ -192,7 +200,6 @@ public final class ModelTests {
             case 8:
                 int number = aNumber();
                 due("write(" + number + ", " + is + ")", x.write(number, is), y.write(number, is));
-                due("told(17)", x.told(17), y.told(17));
                 break;
             case 9:
                 if (below(6) == 0) {

@@ -166,6 +166,7 @@ public final class PromiseTests {
 
         x = made(CROSSED);
         x.seed(77);
+        row("old steps", x, 1, 1, 27, 28);
         x.fence(1, true);
         x.cost(3, 4);
         x.overtaking(2);
@@ -182,6 +183,7 @@ public final class PromiseTests {
         due("no image", x.goBack(0), NOT);
         due("the seed stays", x.seed(1), 77);
         due("new steps", x.step(1, 2), 1);
+        row("new steps", x, 1, 0, 1, 19);
         due("threads of the empty text again", x.threads(), 0);
         due("no threads then", x.told(0), 0);
         due("readings then", x.told(6), 1);
@@ -364,6 +366,8 @@ public final class PromiseTests {
         ringsOf("t;w0;t;r0;w1;t;r1;r0;", 1, 2);
         ringsOf("t;w0;t;w0;r1;t;w1;r0;", 1, 2);
         ringsOf("t;r0;t;w0;w1;t;w1;w0;", 1, 2);
+        ringsOf("t;w0;t;r0;r1;t;w1;w0;", 1, 2);
+        ringsOf("t;w0;t;w0;w1;t;r1;r0;", 1, 2);
         // Two writers alone, with two that read: each writer's neighbours would have to read.
         ringsOf("t;w0;t;w1;t;r0;r1;", 0, 0);
         // One pair in more rings than one.
