@@ -33,6 +33,8 @@ public final class FenceWays {
     private final ReadingList readings;
     private final ReadingList strictReadings;
     private boolean readingsAreKnown;
+    private int fencesOfReadings;
+    private int kindsOfReadings;
     private boolean strictAreKnown;
     private int seedNow;
     private int faultPlace;
@@ -55,6 +57,8 @@ public final class FenceWays {
         readings = new ReadingList();
         strictReadings = new ReadingList();
         readingsAreKnown = false;
+        fencesOfReadings = 0;
+        kindsOfReadings = 0;
         strictAreKnown = false;
         seedNow = 0;
         faultPlace = NONE;
@@ -169,7 +173,7 @@ public final class FenceWays {
         if (!plan.hasGap(gap)) {
             return UNKNOWN;
         }
-        beginDeed();
+        history.add(setting);
         setting.setFence(gap, is);
         return setting.costOfSet(setting.fences);
     }
@@ -182,7 +186,7 @@ public final class FenceWays {
             return OUTSIDE;
         }
         int old = setting.costOf(gap);
-        beginDeed();
+        history.add(setting);
         setting.setCost(gap, v);
         return old;
     }
@@ -191,14 +195,14 @@ public final class FenceWays {
         if (set < 0 || set > ALL_KINDS) {
             return OUTSIDE;
         }
-        beginDeed();
+        history.add(setting);
         setting.kinds = set;
         return readingsNow().count;
     }
 
     public int best() {
         int set = bestSet();
-        beginDeed();
+        history.add(setting);
         setting.fences = set;
         return setting.costOfSet(set);
     }
@@ -223,7 +227,6 @@ public final class FenceWays {
             return NOT;
         }
         history.takeBack(n, setting);
-        readingsAreKnown = false;
         return history.count;
     }
 
@@ -273,7 +276,6 @@ public final class FenceWays {
         setting.copy(image.setting);
         seedNow = image.seedThen;
         history.clear();
-        readingsAreKnown = false;
         return 1;
     }
 
@@ -291,18 +293,13 @@ public final class FenceWays {
         strictAreKnown = false;
     }
 
-    private void beginDeed() {
-        history.add(setting);
-        readingsAreKnown = false;
-    }
-
     private void driftOnce() {
         // All four are drawn each time, whichever of them counts.
         int deed = draw(4);
         int s = draw(plan.stepCount);
         int costLessOne = draw(MOST_COST);
         int kinds = draw(ALL_KINDS + 1);
-        beginDeed();
+        history.add(setting);
         if (deed == 3) {
             setting.kinds = kinds;
         } else if (plan.hasGap(s)) {
@@ -320,9 +317,11 @@ public final class FenceWays {
     }
 
     private ReadingList readingsNow() {
-        if (!readingsAreKnown) {
+        if (!readingsAreKnown || fencesOfReadings != setting.fences || kindsOfReadings != setting.kinds) {
             orders.findReadings(plan, setting.fences, setting.kinds, readings);
             readingsAreKnown = true;
+            fencesOfReadings = setting.fences;
+            kindsOfReadings = setting.kinds;
         }
         return readings;
     }
