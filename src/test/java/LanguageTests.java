@@ -70,6 +70,7 @@ public final class LanguageTests {
             due("field " + field.getName(), Modifier.isPublic(field.getModifiers()) == ofTheFace
                 && (ofTheFace || Modifier.isPrivate(field.getModifiers())));
         }
+        fieldsAtMost(FenceWays.class);
         due("final", Modifier.isFinal(FenceWays.class.getModifiers()));
         due("one constructor", FenceWays.class.getConstructors().length == 1);
     }
@@ -81,10 +82,19 @@ public final class LanguageTests {
             due("not a name of the face: " + method.getName(), !FACE.matches(".*\\b" + method.getName() + "\\b.*"));
             due("at most seven parameters: " + method.getName(), method.getParameterCount() <= 7);
         }
+        fieldsAtMost(inside);
         for (Field field : inside.getDeclaredFields()) {
             boolean constant = !Modifier.isStatic(field.getModifiers()) || Modifier.isFinal(field.getModifiers());
             due("no static state: " + field.getName(), constant);
         }
+    }
+
+    private static void fieldsAtMost(Class<?> of) {
+        int fields = 0;
+        for (Field field : of.getDeclaredFields()) {
+            fields += Modifier.isStatic(field.getModifiers()) ? 0 : 1;
+        }
+        due("at most twenty fields: " + of.getName(), fields <= 20);
     }
 
     /** A method's lines: from its head to the brace that closes at the same depth. */
