@@ -23,7 +23,7 @@ public final class Mutants {
     private static final Pattern TOKEN = Pattern.compile(
         "(?s)/\\*.*?\\*/|//[^\\n]*|'[^']'|\"[^\"]*\"|<=|>=|==|!=|&&|\\|\\||\\+\\+|--|<<|>>>|[-+<>&|!]|\\b\\d+L?\\b|\\b[A-Za-z_]\\w*\\b");
     private static final Pattern STATEMENT = Pattern.compile(
-        "(?m)^ +(?!return|private|public|int |long |boolean |import|case|default|throw)[^\\n{}]*;$");
+        "(?m)^ ++(?!private|public|int |long |boolean |import|case|default)[^\\n{}]*;$");
     private static final Map<String, String> OTHERS = Map.ofEntries(
         Map.entry("<=", "<"), Map.entry(">=", ">"), Map.entry("<", "<="), Map.entry(">", ">="),
         Map.entry("==", "!="), Map.entry("!=", "=="), Map.entry("&&", "||"), Map.entry("||", "&&"),
@@ -46,8 +46,11 @@ public final class Mutants {
             ends.add(pool.submit(() -> endOf(mutant, args)));
         }
         int unseen = 0;
+        int noJava = 0;
         for (int i = 0; i < mutants.size(); i++) {
-            if (ends.get(i).get().equals("unseen")) {
+            String end = ends.get(i).get();
+            noJava += end.equals("does not compile") ? 1 : 0;
+            if (end.equals("unseen")) {
                 unseen++;
                 Mutant mutant = mutants.get(i);
                 System.out.println("line " + mutant.line() + ": '" + mutant.old().trim() + "' -> '" + mutant.put() + "'   "
@@ -55,7 +58,7 @@ public final class Mutants {
             }
         }
         pool.shutdown();
-        System.out.println(mutants.size() + " mutants, " + unseen + " unseen");
+        System.out.println(mutants.size() - noJava + " mutants, " + unseen + " unseen; " + noJava + " more do not compile");
     }
 
     private static void breakTokens(String source, List<Mutant> mutants) {
