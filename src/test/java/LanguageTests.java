@@ -9,7 +9,10 @@ import java.util.TreeSet;
 import java.util.regex.Matcher;
 import java.util.regex.Pattern;
 
-/** Those rules of LANGUAGE.md that a program can look at; the argument is the path of FenceWays.java. */
+/**
+ * Those rules of LANGUAGE.md that a program can look at. The arguments are the paths of
+ * FenceWays.java and of DOC.md.
+ */
 public final class LanguageTests {
     private static final String[] FORBIDDEN = {
         "\\bthrow\\b", "\\bthrows\\b", "\\btry\\b", "\\bcatch\\b", "\\bfinally\\b", "\\bsynchronized\\b", "\\bassert\\b",
@@ -29,6 +32,7 @@ public final class LanguageTests {
         }
         imports(code);
         face();
+        faceOfTheDocument(Files.readString(Path.of(args[1])));
         for (Class<?> inside : FenceWays.class.getDeclaredClasses()) {
             classInside(inside);
         }
@@ -73,6 +77,26 @@ public final class LanguageTests {
         fieldsAtMost(FenceWays.class);
         due("final", Modifier.isFinal(FenceWays.class.getModifiers()));
         due("one constructor", FenceWays.class.getConstructors().length == 1);
+    }
+
+    /** Each line of the document's public face is there, with its parameters or its values. */
+    private static void faceOfTheDocument(String document) {
+        Set<String> there = new TreeSet<>();
+        for (Method method : FenceWays.class.getMethods()) {
+            StringBuilder head = new StringBuilder(method.getReturnType() + " " + method.getName() + ":");
+            for (Class<?> type : method.getParameterTypes()) {
+                head.append(' ').append(type);
+            }
+            there.add(head.toString());
+        }
+        int lines = 0;
+        Matcher method = Pattern.compile("(?m)^ {4}public (int \\w+)\\((.*)\\);$").matcher(document);
+        while (method.find()) {
+            lines++;
+            String types = method.group(2).replaceAll("(\\w+) \\w+(, )?", " $1");
+            due("as the document has it: " + method.group(), there.contains(method.group(1) + ":" + types));
+        }
+        due("the document tells all of the face", lines == FACE.split(" ").length);
     }
 
     private static void classInside(Class<?> inside) {
